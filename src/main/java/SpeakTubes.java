@@ -998,6 +998,7 @@ public final class SpeakTubes {
         final int[] ways = new int[ROOMS * ROOMS];
         final int[] parts = new int[ROOMS * ROOMS];
         int count;
+        final int[] bounds = new int[CANDIDATES + 1];
         final byte[] fewest = new byte[1 << CANDIDATES];
 
         /** The tubes of every way there is now; 0 where there is none. */
@@ -1034,18 +1035,22 @@ public final class SpeakTubes {
             if (canBe == 0 || !allCanBeParted(canBe)) {
                 return NONE;
             }
+            layBounds(canBe);
             Arrays.fill(fewest, (byte) 0);
             return fewestOf(this, canBe, 0);
         }
 
-        /** Ways that part the set, each kind of parting once. */
+        /** Ways that part the set, each kind of parting once; those that halve it best come first, as they lead to few tries. */
         private void gatherParts(int canBe) {
             count = 0;
-            for (int way : ways) {
-                int part = way & canBe;
-                if (part != 0 && part != canBe && !hasPart(part, canBe) && count < parts.length) {
-                    parts[count] = part;
-                    count++;
+            int size = Integer.bitCount(canBe);
+            for (int larger = (size + 1) / 2; larger < size; larger++) {
+                for (int way : ways) {
+                    int part = way & canBe;
+                    if (largerPart(canBe, way) == larger && !hasPart(part, canBe) && count < parts.length) {
+                        parts[count] = part;
+                        count++;
+                    }
                 }
             }
         }
@@ -1072,18 +1077,31 @@ public final class SpeakTubes {
             return true;
         }
 
+        /** Tries that so many candidates need at the least: none leaves less than half, nor takes more than the best part away. */
+        private void layBounds(int canBe) {
+            int best = 0;
+            for (int i = 0; i < count; i++) {
+                best = Math.max(best, Integer.bitCount(canBe) - largerPart(canBe, parts[i]));
+            }
+            for (int size = 2; size <= CANDIDATES; size++) {
+                int left = Math.max((size + 1) / 2, size - best);
+                bounds[size] = left < size ? 1 + bounds[left] : NEVER;
+            }
+        }
+
         /** Every level has one candidate less at the least: that bounds the depth. */
         private static int fewestOf(Stretches s, int set, int depth) {
-            if (Integer.bitCount(set) <= 1 || depth > CANDIDATES || set >= s.fewest.length) {
+            int size = Integer.bitCount(set);
+            if (size <= 1 || size > CANDIDATES || depth > CANDIDATES || set >= s.fewest.length) {
                 return 0;
             }
             if (s.fewest[set] != 0) {
                 return s.fewest[set];
             }
             int least = NEVER;
-            for (int i = 0; i < s.count; i++) {
+            for (int i = 0; i < s.count && least > s.bounds[size]; i++) {
                 int larger = largerPart(set, s.parts[i]);
-                if (larger < Integer.bitCount(set) && 1 + halvings(larger) < least) {
+                if (larger < size && 1 + s.bounds[larger] < least) {
                     int worse = fewestOf(s, set & s.parts[i], depth + 1);
                     worse = Math.max(worse, fewestOf(s, set & ~s.parts[i], depth + 1));
                     least = Math.min(least, 1 + worse);
@@ -1091,15 +1109,6 @@ public final class SpeakTubes {
             }
             s.fewest[set] = (byte) least;
             return least;
-        }
-
-        /** No tries are fewer than it takes to halve a number of candidates down to one. */
-        private static int halvings(int number) {
-            int times = 0;
-            while (times < CANDIDATES && 1 << times < number) {
-                times++;
-            }
-            return times;
         }
     }
 
