@@ -366,6 +366,25 @@ public final class PromisesTest {
         judged(x, "AB2CD2", NONE, NONE);
         x.set(0, 19);
         judged(x, "AB2CD2", 1, 4);
+        x = Check.houseOf("A-B1B-C1B-C1C-D1");
+        judged(x, "AC9BD9", NONE, NONE);
+        judged(x, "AC9BD9.5CB1", 2, 2);
+        x = Check.houseOf("A-B1C-D1E=F1G=E1H=E1");
+        judged(x, "EF9AB9CD9.1BA1", 3, 2);
+        x = Check.houseOf("A-C1B-C1D-C1C-E1C-F1");
+        judged(x, "AE9BF9", NONE, NONE);
+        x = Check.houseOf("A-C1A=B1D=A1B=E1F-A1A-G1");
+        judged(x, "AC9BD9FE9", NONE, NONE);
+        judged(x, "AC9BD9FG9", NONE, NONE);
+        x = Check.houseOf("B=A1A=C1A=D1A=E1A-F1A-G1");
+        judged(x, "BC9AF9DE9GB1", 3, 3);
+        x = Check.houseOf("A=B1A-C1A-D1B-E1B-F1B-G1A-H1");
+        judged(x, "CE9DF9AB9", 2, 4);
+        judged(x, "CE9DF9.8HG1", 2, 4);
+        judged(x, "CE9DF8.9HG1", NONE, NONE);
+        x = Check.houseOf("A=B1A-C1A-D1B-E1B-F1G-H1");
+        judged(x, "CE9DF9GH9AB9", 3, 4);
+        judged(Check.houseOf("A-B1A-C1B-E1G-H1"), "CE9GH9AB9", 2, 4);
     }
 
     private static void dayOf(SpeakTubes x, String day, int last, int most, int used) {
@@ -386,6 +405,14 @@ public final class PromisesTest {
         dayOf(x, "AB3.2CD3", 5, 2, 5);
         dayOf(x, "AB9.9AB9.9AB9", 27, 1, 1);
         dayOf(x, "EG1", 1, 1, 24);
+        SpeakTubes y = Check.houseOf("A-B1A-B1C=D1");
+        dayOf(y, "AB1", 1, 1, 1);
+        dayOf(y, "AB1CD9.1BA9", 10, 2, 5);
+        y = Check.houseOf("C-A1C-A1A-B1A-D1");
+        dayOf(y, "CB3.1AD3", 4, 2, 1 + 4 + 8);
+        dayOf(y, "CB3.1AD3.2.1CB1", 5, 2, 1 + 4 + 8);
+        y = Check.houseOf("A-B1B-C1B-C1C-D1");
+        dayOf(y, "AC9BD9", 9, 2, 15);
         due("12 what", x.day(3), OUTSIDE);
         due("12 what", x.day(-1), OUTSIDE);
         Check.tell(x, "A.");
@@ -404,6 +431,7 @@ public final class PromisesTest {
         due("13 first", x.know(0, 255), 0);
         due("13 second", x.know(0, 1), 255);
         due("13 last room", x.know(7, 4), 0);
+        due("13 none", x.know(5, 0), 0);
         due("13 told", x.told(17), 4);
         due("13 room", x.know(8, 1), UNKNOWN);
         due("13 room", x.know(-1, 1), UNKNOWN);
@@ -475,6 +503,13 @@ public final class PromisesTest {
         known(x, "AC3.1BE2.2CA1", 4, 2, 2);
         known(x, "AC3.1BE2.2CA1", 0, 1, 1);
         known(x, "AC3.1BE2.2CA1", 3, 0, 3);
+        x = Check.houseOf("B-A1A-C1C-H1");
+        x.know(1, 5);
+        known(x, "BC1", 0, 0, 5);
+        known(x, "BA1", 0, 5, 5);
+        known(x, "BH1", 2, 0, 5);
+        x.set(1, 254);
+        known(x, "BH1", 0, 5, 5);
     }
 
     private static void p15Call() {
@@ -724,6 +759,9 @@ public final class PromisesTest {
         x = Check.houseOf("A>B1C>D1E>F1");
         due("22 one by one", x.stopped(2), 3);
         due("22 the least", x.stopped(1), 1);
+        x = Check.houseOf("H>A1");
+        due("22 to the first room", x.stopped(1), 70);
+        due("22 to the first room", x.stopped(2), 1);
         x = Check.houseOf("H>G1F>E1");
         due("22 the least", x.stopped(1), 54);
         x = Check.houseOf("A-B1B-C1C-D1D-E1E-F1F-G1G-H1");
@@ -766,6 +804,9 @@ public final class PromisesTest {
         further(x, 9, 1, 54 * 99 + 4, 54 * 99 + 4);
         x.set(0, 60);
         x = Check.houseOf("A>B1B>C1C>A1");
+        x.set(0, 2);
+        further(x, 2, 3, 48 * 99 + 3 * 1 + 3 * 2 + 2 * 2, 50 * 99 + 3 * 1 + 3 * 2);
+        x.set(0, 60);
         due("24 tubes", x.told(1), 3);
         due("24 length", x.further(0, 0), OUTSIDE);
         due("24 length", x.further(10, 2), OUTSIDE);
@@ -789,6 +830,8 @@ public final class PromisesTest {
         due("25 one way beside", Check.houseOf("A-B1A>B1").bridges(), 1);
         SpeakTubes x = Check.houseOf("A-B5B-C5C-D5D-A5");
         due("25 a ring", x.bridges(), 0);
+        x.set(0, 15);
+        due("25 a ring that is just short enough", x.bridges(), 0);
         x.set(0, 14);
         due("25 a ring that is too long", x.bridges(), 15);
         x.set(0, 4);
@@ -841,6 +884,7 @@ public final class PromisesTest {
         due("27 pad stays", x.told(0), 2);
         due("27 tubes", x.told(1), 2);
         due("27 tube", x.tube(1, 3), 2);
+        due("27 tube", x.tube(0, 3), 1);
         due("27 tube", x.tube(1, 0), 1);
         due("27 tube", x.tube(0, 1), 1);
         due("27 tube", x.tube(0, 2), '-');
