@@ -145,9 +145,12 @@ public final class SpeakTubes {
         if (!within(what, 0, 2)) {
             return OUTSIDE;
         }
-        int refused = passDay(now.stoppers);
-        if (refused != 0) {
-            return refused;
+        if (pad.dayFault() != NONE) {
+            return NO;
+        }
+        today.run(pad, now, route, now.stoppers);
+        if (today.why != 0) {
+            return STATE;
         }
         if (what == 0) {
             return today.last;
@@ -174,17 +177,11 @@ public final class SpeakTubes {
         if (!within(could, 0, 1)) {
             return OUTSIDE;
         }
-        int refused = passDay(could == 1 ? 0 : now.stoppers);
-        return refused != 0 ? refused : today.known[room];
-    }
-
-    /** Goes through the day on the pad: 0, or the refusal that is due. */
-    private int passDay(int stoppers) {
         if (pad.dayFault() != NONE) {
             return NO;
         }
-        today.run(pad, now, route, stoppers);
-        return today.why == 0 ? 0 : STATE;
+        today.run(pad, now, route, could == 1 ? 0 : now.stoppers);
+        return today.why == 0 ? today.known[room] : STATE;
     }
 
     // ---- 3 calls that wait
@@ -708,7 +705,12 @@ public final class SpeakTubes {
                     endCalls();
                     place += 2;
                 } else {
-                    beginCall(pad, place, now, route, stoppers);
+                    int from = pad.roomOf(place);
+                    int to = pad.roomOf(place + 1);
+                    why = whyNot(from, to, now, route);
+                    if (why == 0) {
+                        beginCall(from, to, pad.numberOf(place + 2), route, route.hearers(now.house, stoppers));
+                    }
                     place += 3;
                 }
             }
@@ -716,17 +718,14 @@ public final class SpeakTubes {
             endCalls();
         }
 
-        private void beginCall(Pad pad, int place, Keeping now, Route route, int stoppers) {
-            int from = pad.roomOf(place);
-            int to = pad.roomOf(place + 1);
-            why = whyNot(from, to, now, route);
-            if (why != 0 || begun >= PARTS) {
+        private void beginCall(int from, int to, int minutes, Route route, int heard) {
+            if (begun >= PARTS) {
                 return;
             }
             rooms[begun] = 1 << from | 1 << to;
-            over[begun] = minute + pad.numberOf(place + 2);
+            over[begun] = minute + minutes;
             tubes[begun] = route.mask;
-            hearers[begun] = route.hearers(now.house, stoppers) | rooms[begun];
+            hearers[begun] = heard | rooms[begun];
             brings[begun] = known[from];
             ended[begun] = false;
             last = Math.max(last, over[begun]);
