@@ -1,7 +1,6 @@
 /** Each promise by its number: ordinary inputs, the edges that the document names, wrong inputs. */
 public final class PromisesTest {
     private static final int UNKNOWN = -1, OUTSIDE = -2, STATE = -3, FULL = -4, NO = -5, NONE = -6;
-    private static final int[] WILD = {Integer.MIN_VALUE, -1000, -7, 1000000, Integer.MAX_VALUE};
 
     public static void main(String[] args) {
         p1NewObject();
@@ -68,7 +67,7 @@ public final class PromisesTest {
         due("2 above", x.say(127), OUTSIDE);
         due("2 least", x.say(33), 1);
         due("2 most", x.say(126), 2);
-        for (int v : WILD) {
+        for (int v : Check.WILD) {
             due("2 wild", x.say(v), OUTSIDE);
         }
         for (int n = 3; n <= 60; n++) {
@@ -116,7 +115,7 @@ public final class PromisesTest {
         SpeakTubes x = new SpeakTubes();
         due("4 how", x.fault(2), OUTSIDE);
         due("4 how", x.fault(-1), OUTSIDE);
-        for (int v : WILD) {
+        for (int v : Check.WILD) {
             due("4 wild", x.fault(v), OUTSIDE);
         }
     }
@@ -188,7 +187,7 @@ public final class PromisesTest {
         due("6 unknown ahead of outside", x.tube(5, 4), UNKNOWN);
         due("6 outside", x.tube(4, 4), OUTSIDE);
         due("6 outside", x.tube(0, -1), OUTSIDE);
-        for (int v : WILD) {
+        for (int v : Check.WILD) {
             due("6 wild", x.tube(v, 0), UNKNOWN);
             due("6 wild", x.tube(0, v), OUTSIDE);
         }
@@ -207,7 +206,7 @@ public final class PromisesTest {
         due("7 high", x.set(1, 256), OUTSIDE);
         due("7 which", x.set(2, 5), OUTSIDE);
         due("7 which", x.set(-1, 5), OUTSIDE);
-        for (int v : WILD) {
+        for (int v : Check.WILD) {
             due("7 wild", x.set(v, 1), OUTSIDE);
             due("7 wild", x.set(0, v), OUTSIDE);
             due("7 wild", x.set(1, v), OUTSIDE);
@@ -242,7 +241,7 @@ public final class PromisesTest {
         x.set(0, 7);
         due("8 too far", x.way(0, 2, -1), NONE);
         due("8 too far", x.way(0, 2, 0), NONE);
-        for (int v : WILD) {
+        for (int v : Check.WILD) {
             due("8 wild", x.way(v, 0, 0), UNKNOWN);
             due("8 wild", x.way(0, v, 0), UNKNOWN);
             due("8 wild", x.way(0, 1, v), NONE);
@@ -281,7 +280,7 @@ public final class PromisesTest {
         due("9 rooms", x.loud(8, 2, 0), UNKNOWN);
         x.set(0, 8);
         due("9 nothing left", x.loud(0, 2, 2), 0);
-        for (int v : WILD) {
+        for (int v : Check.WILD) {
             due("9 wild", x.loud(v, 0, 0), UNKNOWN);
             due("9 wild", x.loud(0, v, 0), UNKNOWN);
             due("9 wild", x.loud(0, 1, v), UNKNOWN);
@@ -304,7 +303,7 @@ public final class PromisesTest {
         due("10 both one", x.heard(2, 2), UNKNOWN);
         due("10 unknown", x.heard(8, 2), UNKNOWN);
         due("10 unknown", x.heard(2, -1), UNKNOWN);
-        for (int v : WILD) {
+        for (int v : Check.WILD) {
             due("10 wild", x.heard(v, 0), UNKNOWN);
             due("10 wild", x.heard(0, v), UNKNOWN);
         }
@@ -342,7 +341,7 @@ public final class PromisesTest {
         Check.tell(x, "AB");
         due("11 fault", x.judge(0), NO);
         due("11 outside ahead of fault", x.judge(2), OUTSIDE);
-        for (int v : WILD) {
+        for (int v : Check.WILD) {
             due("11 wild", x.judge(v), OUTSIDE);
         }
     }
@@ -421,7 +420,7 @@ public final class PromisesTest {
         Check.tell(x, "AH1");
         due("12 outside ahead of state", x.day(3), OUTSIDE);
         due("12 state", x.day(2), STATE);
-        for (int v : WILD) {
+        for (int v : Check.WILD) {
             due("12 wild", x.day(v), OUTSIDE);
         }
     }
@@ -438,7 +437,7 @@ public final class PromisesTest {
         due("13 unknown ahead of outside", x.know(8, 256), UNKNOWN);
         due("13 high", x.know(0, 256), OUTSIDE);
         due("13 low", x.know(0, -1), OUTSIDE);
-        for (int v : WILD) {
+        for (int v : Check.WILD) {
             due("13 wild", x.know(v, 1), UNKNOWN);
             due("13 wild", x.know(1, v), OUTSIDE);
         }
@@ -480,7 +479,7 @@ public final class PromisesTest {
         due("14 outside ahead of fault", x.knows(0, 2), OUTSIDE);
         Check.tell(x, "AH1");
         due("14 state", x.knows(0, 1), STATE);
-        for (int v : WILD) {
+        for (int v : Check.WILD) {
             due("14 wild", x.knows(v, 0), UNKNOWN);
             due("14 wild", x.knows(0, v), OUTSIDE);
         }
@@ -523,7 +522,7 @@ public final class PromisesTest {
         due("15 minutes", x.call(0, 1, 10, 1), OUTSIDE);
         due("15 due", x.call(0, 1, 1, 0), OUTSIDE);
         due("15 due", x.call(0, 1, 1, 61), OUTSIDE);
-        for (int v : WILD) {
+        for (int v : Check.WILD) {
             due("15 wild", x.call(v, 1, 1, 1), UNKNOWN);
             due("15 wild", x.call(1, v, 1, 1), UNKNOWN);
             due("15 wild", x.call(0, 1, v, 1), OUTSIDE);
@@ -556,7 +555,7 @@ public final class PromisesTest {
         }
         due("17 behind the last", x.soonest(order.length), NONE);
         due("17 ahead of the minute", x.soonest(-2), NONE);
-        for (int v : WILD) {
+        for (int v : Check.WILD) {
             due("17 wild", x.soonest(v), NONE);
         }
     }
@@ -613,7 +612,7 @@ public final class PromisesTest {
         }
         due("18 behind the last", x.byDue(order.length), NONE);
         due("18 ahead", x.byDue(-2), NONE);
-        for (int v : WILD) {
+        for (int v : Check.WILD) {
             due("18 wild", x.byDue(v), NONE);
         }
     }
@@ -663,7 +662,7 @@ public final class PromisesTest {
         due("19 no way", x.locked(15, 1), STATE);
         due("19 outside ahead of state", x.locked(8, 2), OUTSIDE);
         due("19 not of the set", x.locked(3, 0), 1011000);
-        for (int v : WILD) {
+        for (int v : Check.WILD) {
             due("19 wild", x.locked(v, 0), OUTSIDE);
             due("19 wild", x.locked(1, v), OUTSIDE);
         }
@@ -711,7 +710,7 @@ public final class PromisesTest {
         due("20 state ahead of full", x.tried(0, 4, false), STATE);
         due("20 unknown ahead of full", x.tried(4, 4, false), UNKNOWN);
         due("20 nothing changed", x.stopped(0), 4096 + 6);
-        for (int v : WILD) {
+        for (int v : Check.WILD) {
             due("20 wild", x.tried(v, 0, true), UNKNOWN);
             due("20 wild", x.tried(0, v, false), UNKNOWN);
         }
@@ -746,7 +745,7 @@ public final class PromisesTest {
         due("22 none can be", x.stopped(2), NONE);
         due("22 what", x.stopped(3), OUTSIDE);
         due("22 what", x.stopped(-1), OUTSIDE);
-        for (int v : WILD) {
+        for (int v : Check.WILD) {
             due("22 wild", x.stopped(v), OUTSIDE);
         }
         x = Check.houseOf("A-B1A-B2");
@@ -782,7 +781,7 @@ public final class PromisesTest {
         due("23 both one", x.far(2, 2), UNKNOWN);
         due("23 rooms", x.far(8, 2), UNKNOWN);
         due("23 rooms", x.far(2, -1), UNKNOWN);
-        for (int v : WILD) {
+        for (int v : Check.WILD) {
             due("23 wild", x.far(v, 0), UNKNOWN);
             due("23 wild", x.far(0, v), UNKNOWN);
         }
@@ -812,7 +811,7 @@ public final class PromisesTest {
         due("24 length", x.further(10, 2), OUTSIDE);
         due("24 what", x.further(1, 3), OUTSIDE);
         due("24 what", x.further(1, -1), OUTSIDE);
-        for (int v : WILD) {
+        for (int v : Check.WILD) {
             due("24 wild", x.further(v, 0), OUTSIDE);
             due("24 wild", x.further(1, v), OUTSIDE);
         }
@@ -850,7 +849,7 @@ public final class PromisesTest {
         Check.tell(x, "AB");
         x.image(0);
         due("26 pad stays", x.told(0), 2);
-        for (int v : WILD) {
+        for (int v : Check.WILD) {
             due("26 wild", x.image(v), OUTSIDE);
         }
     }
@@ -860,7 +859,7 @@ public final class PromisesTest {
         due("27 not kept", x.restore(0), STATE);
         due("27 high", x.restore(2), OUTSIDE);
         due("27 low", x.restore(-1), OUTSIDE);
-        for (int v : WILD) {
+        for (int v : Check.WILD) {
             due("27 wild", x.restore(v), OUTSIDE);
         }
         x.set(0, 30);
@@ -932,7 +931,7 @@ public final class PromisesTest {
         for (int what : outside) {
             due("28 outside", x.told(what), OUTSIDE);
         }
-        for (int v : WILD) {
+        for (int v : Check.WILD) {
             due("28 wild", x.told(v), OUTSIDE);
         }
     }
