@@ -496,6 +496,14 @@ public final class DaysBoundariesTest {
         due(x.told(3), 0);
     }
 
+    static void promise14KnowsCouldInTheFirstAndTheLastRoomBetween() {
+        SpeakTubes x = houseOf("B-A1A-H1H-C1");
+        x.know(1, 128);
+        knows(x, "BC1", 0, 0, 128);
+        knows(x, "BC1", 7, 0, 128);
+        knows(x, "BC1", 2, 128, 128);
+    }
+
     static void promise14KnowsCouldGoesOnFromRoomToRoom() {
         SpeakTubes x = houseOf("A-B1B-C1B-D1");
         x.know(0, 1);

@@ -803,6 +803,17 @@ public final class HouseBoundariesTest {
         due(x.heard(0, 2), 6);
     }
 
+    static void promise10HeardInTheFirstAndTheLastRoomBetween() {
+        SpeakTubes x = houseOf("B-A1A-H1H-C1");
+        due(x.heard(1, 2), 4);
+        x.set(1, 255 - 1);
+        due(x.heard(1, 2), 4 + 1);
+        x.set(1, 255 - 128);
+        due(x.heard(1, 2), 4 + 128);
+        x.set(1, 0);
+        due(x.heard(1, 2), 4 + 1 + 128);
+    }
+
     static void promise10HeardStoppersAtBothEndsDoNothing() {
         SpeakTubes x = houseOf(ROW);
         x.set(1, 255 - 1 - 128);

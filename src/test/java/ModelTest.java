@@ -128,12 +128,23 @@ public final class ModelTest {
         }
     }
 
+    /** A number far from all that the document names. */
+    private int wild() {
+        return Check.WILD[pick(Check.WILD.length)];
+    }
+
     private int room() {
+        if (pick(300) == 0) {
+            return wild();
+        }
         return pick(60) == 0 ? pick(12) - 2 : pick(dense ? 5 : 8);
     }
 
-    /** Mostly from least to most; now and then beside them. */
+    /** Mostly from least to most; now and then beside them, or far from them. */
     private int number(int least, int most) {
+        if (pick(200) == 0) {
+            return wild();
+        }
         return pick(30) == 0 ? least - 2 + pick(most - least + 5) : least + pick(most - least + 1);
     }
 

@@ -263,6 +263,23 @@ public final class StretchesBoundariesTest {
         due(x.stopped(1), NONE);
         due(x.stopped(2), NONE);
         due(x.stopped(0), NONE_IS + 3);
+        x = houseOf(ROW);
+        due(x.stopped(2), 3);
+        x.set(0, 1);
+        due(x.stopped(2), 7);
+        x.set(0, 20);
+        due(x.stopped(2), 3);
+    }
+
+    static void promise22StoppedLeavesNothingOfTheWaysBefore() {
+        SpeakTubes x = houseOf("A-B5");
+        due(x.stopped(1), 1);
+        due(x.stopped(2), 1);
+        x.set(0, 4);
+        due(x.stopped(1), NONE);
+        due(x.stopped(2), NONE);
+        x.set(0, 5);
+        due(x.stopped(2), 1);
     }
 
     static void promise22StoppedTriesOfFewAndOfMany() {

@@ -428,6 +428,13 @@ public final class WaitingBoundariesTest {
         due(waiting("A-B1B-C1C-D1", "AB1DA1").locked(3, 0), NONE);
     }
 
+    static void promise19LockedInTheLastTubes() {
+        SpeakTubes x = waiting("G-H1".repeat(10) + "A-B1B-C1", "AC1CA1");
+        due(x.locked(3, 0), 1011000);
+        due(x.locked(3, 1), NONE);
+        due(waiting("G-H1".repeat(10) + "A=B1B=C1", "AC1CA1").locked(3, 0), NONE);
+    }
+
     static void promise19LockedOfSevenTubes() {
         SpeakTubes x = waiting(ROW, "AH1HA1");
         due(x.locked(3, 0), 1016000);
